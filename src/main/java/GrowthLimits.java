@@ -44,7 +44,11 @@ public final class GrowthLimits {
     }
     requireRoom();
     work.begin();
-    putMultiple(above, below, A, 0);
+    if (above != 0) {
+      work.takeOne();
+      work.multiply(above, below);
+      work.putTaken();
+    }
     return keep();
   }
 
@@ -54,7 +58,7 @@ public final class GrowthLimits {
     }
     requireRoom();
     work.begin();
-    putMultiple(1, 1, kind, 1);
+    putMultiple(1, kind, 1);
     return keep();
   }
 
@@ -122,10 +126,10 @@ public final class GrowthLimits {
     }
     int at = rowOf(a, 0);
     work.begin();
-    putMultiple(kept[at + P], 1, A, 2);
-    putMultiple(kept[at + Q], 1, A, 1);
-    putMultiple(kept[at + A], 1, B, 1);
-    putMultiple(kept[at + B], 1, D, 1);
+    putMultiple(kept[at + P], A, 2);
+    putMultiple(kept[at + Q], A, 1);
+    putMultiple(kept[at + A], B, 1);
+    putMultiple(kept[at + B], D, 1);
     return keep();
   }
 
@@ -284,11 +288,11 @@ public final class GrowthLimits {
     }
   }
 
-  /** Puts a number times one of the letters to a power; a multiple of 0 is no TERM. */
-  private void putMultiple(int above, int below, int cell, int power) {
-    if (above != 0) {
+  /** Puts a whole multiple of one of the letters to a power; a multiple of 0 is no TERM. */
+  private void putMultiple(int factor, int cell, int power) {
+    if (factor != 0) {
       work.takeOne();
-      work.multiply(above, below);
+      work.multiply(factor, 1);
       work.raise(cell, power);
       work.putTaken();
     }

@@ -219,6 +219,12 @@ public final class PromisesTest {
     refused("-1000000 - 1000000", STATE, () -> g.add(least, least));
     dueText("1000000 - 1000000", g, g.add(most, least), "");
     dueText("999999 + 1", g, g.add(g.number(999999, 1), one), "1000000:0,0,0,0,0");
+    int tiny = g.number(1, 1000000);
+    dueText("parts beyond an int on the way", g, g.add(tiny, tiny), "1/500000:0,0,0,0,0");
+    dueText("999999/1000000 + 1/1000000", g, g.add(g.number(999999, 1000000), tiny),
+        "1:0,0,0,0,0");
+    dueText("-999999/1000000 - 1/1000000", g, g.add(g.number(-1, 1000000),
+        g.number(-999999, 1000000)), "-1:0,0,0,0,0");
     int prime = g.number(1, 999983);
     int half = g.number(1, 2);
     refused("1/999983 + 1/2", STATE, () -> g.add(prime, half));
@@ -366,6 +372,9 @@ public final class PromisesTest {
     int x = h.letter(2);
     int both = h.add(h.times(e, x), h.times(h.number(-1, 1), e));
     dueText("parts that go", h, h.derive(both), "1:0,1,1,0,0");
+    int ten = powers(h, 10);
+    h.letter(0);
+    due("slope of ten terms", h.terms(h.derive(ten)), 9);
     refused("derive(-1)", INDEX, () -> h.derive(-1));
     refused("derive(count)", INDEX, () -> h.derive(h.count()));
     deriveTooGreat();
@@ -539,6 +548,9 @@ public final class PromisesTest {
     due("value below", g.value(near, 1), 3);
     due("0 above", g.value(under, 0), 0);
     due("0 below", g.value(under, 1), 1);
+    int alone = g.number(3, -4);
+    due("of a number, above", g.value(alone, 0), -3);
+    due("of a number, below", g.value(alone, 1), 4);
     int zero = g.number(0, 5);
     due("of 0, above", g.value(zero, 0), 0);
     due("of 0, below", g.value(zero, 1), 1);
@@ -639,6 +651,11 @@ public final class PromisesTest {
     for (int kind = 0; kind < 5; kind++) {
       due("letter and 1", g.same(g.letter(kind), one) ? 1 : 0, 0);
     }
+    int ten = powers(g, 10);
+    int again = g.add(ten, g.number(0, 1));
+    g.letter(0);
+    due("ten terms", g.same(ten, again) ? 1 : 0, 1);
+    due("ten terms and twice them", g.same(ten, g.add(ten, ten)) ? 1 : 0, 0);
     refused("same(-1, 0)", INDEX, () -> g.same(-1, 0) ? 1 : 0);
     refused("same(0, -1)", INDEX, () -> g.same(0, -1) ? 1 : 0);
     refused("same(0, count)", INDEX, () -> g.same(0, g.count()) ? 1 : 0);
