@@ -12,6 +12,7 @@ import java.util.TreeMap;
 public final class ModelTest {
   private static final int RUNS = 3000;
   private static final int CALLS = 512;
+  private static final int CALLS_TO_LOOK_BACK = 80;
   private static final int MAKERS = 8;
   private static final int KINDS = 18;
 
@@ -45,7 +46,7 @@ public final class ModelTest {
     GrowthLimits real = new GrowthLimits();
     Model model = new Model();
     int makers = 1 + below(9);
-    for (int i = 0; i < CALLS && wrong < 20; i++) {
+    for (int i = 0; i < CALLS - CALLS_TO_LOOK_BACK && wrong < 20; i++) {
       int kind = below(10) < makers ? below(MAKERS) : MAKERS + below(KINDS - MAKERS);
       int[] call = {kind, argument(kind, 0, model), argument(kind, 1, model), below(9) - 1};
       String want = answerOfModel(model, call);
@@ -61,7 +62,7 @@ public final class ModelTest {
             + " answered " + got + ", due is " + want);
       }
     }
-    compareAll(run, real, model);
+    lookBack(run, real, model);
   }
 
   private static int argument(int kind, int place, Model model) {
@@ -124,24 +125,37 @@ public final class ModelTest {
     }
   }
 
-  /** Nothing that was kept may have changed by later calls. */
-  private static void compareAll(int run, GrowthLimits real, Model model) {
-    for (int f = 0; f < model.kept.size() && wrong < 20; f++) {
-      int k = 0;
-      boolean fits = real.terms(f) == model.kept.get(f).size();
-      for (Map.Entry<int[], Fraction> term : model.kept.get(f).entrySet()) {
-        for (int what = 0; what < 5 && fits; what++) {
-          fits = real.term(f, k, what) == term.getKey()[what];
-        }
-        fits = fits && real.term(f, k, 5) == term.getValue().above.intValueExact()
-            && real.term(f, k, 6) == term.getValue().below.intValueExact();
-        k++;
+  /** Nothing that was kept may have changed by later calls; some of it is read with the last ones. */
+  private static void lookBack(int run, GrowthLimits real, Model model) {
+    int count = model.kept.size();
+    int calls = CALLS_TO_LOOK_BACK;
+    int f = count == 0 ? 0 : below(count);
+    for (int i = 0; i < count && wrong < 20; i++) {
+      TreeMap<int[], Fraction> want = model.kept.get(f);
+      calls -= 1 + 7 * want.size();
+      if (calls < 0) {
+        return;
       }
-      if (!fits) {
+      if (!reads(real, f, want)) {
         wrong++;
         System.out.println("run " + run + ": function " + f + " differs in the end");
       }
+      f = (f + 1) % count;
     }
+  }
+
+  private static boolean reads(GrowthLimits real, int f, TreeMap<int[], Fraction> want) {
+    boolean fits = real.terms(f) == want.size();
+    int k = 0;
+    for (Map.Entry<int[], Fraction> term : want.entrySet()) {
+      for (int what = 0; what < 5; what++) {
+        fits = fits && real.term(f, k, what) == term.getKey()[what];
+      }
+      fits = fits && real.term(f, k, 5) == term.getValue().above.intValueExact()
+          && real.term(f, k, 6) == term.getValue().below.intValueExact();
+      k++;
+    }
+    return fits;
   }
 
   private static final class Refusal extends RuntimeException {

@@ -320,12 +320,14 @@ public final class PromisesTest {
   private static void numberOnTheWay() {
     GrowthLimits g = new GrowthLimits();
     int x = g.letter(2);
-    int one = g.number(1, 1);
-    int great = g.add(g.times(g.number(600000, 1), g.times(x, x)), g.times(g.number(600000, 1), x));
-    int left = g.add(great, g.times(g.number(-600000, 1), one));
-    int right = g.add(g.add(g.times(x, x), x), one);
-    // x x: 600000 and 600000 are added before -600000 comes
+    int square = g.times(x, x);
+    int cube = g.times(square, x);
+    int great = g.number(600000, 1);
+    int left = g.add(g.add(g.times(great, cube), g.times(great, x)), g.number(-600000, 1));
+    int right = g.add(g.add(cube, square), g.number(1, 1));
+    // three products fall on x x x and on nothing else: 600000, 600000, -600000
     refused("added on the way", STATE, () -> g.times(left, right));
+    due("added the other way round", g.terms(g.times(right, left)), 7);
   }
 
   private static void promise6Over() {
