@@ -125,7 +125,7 @@ public final class ModelTest {
     }
   }
 
-  /** Nothing that was kept may have changed by later calls; some of it is read with the last ones. */
+  /** Nothing that was kept may have changed by later calls: the last ones read some of it. */
   private static void lookBack(int run, GrowthLimits real, Model model) {
     int count = model.kept.size();
     int calls = CALLS_TO_LOOK_BACK;
@@ -230,7 +230,7 @@ public final class ModelTest {
         case 11: return "" + value(at(c[1]), c[2]);
         case 12: return "" + compare(at(c[1]), at(c[2]));
         case 13: return "" + ratio(at(c[1]), at(c[2]), c[3]);
-        case 14: return "" + (at(c[1]).isEmpty() ? 0 : at(c[1]).firstEntry().getValue().above.signum());
+        case 14: return "" + sign(at(c[1]));
         case 15: return "" + same(at(c[1]), at(c[2]));
         case 16: return "" + fastest(c[1]);
         default: return "" + kept.size();
@@ -443,6 +443,10 @@ public final class ModelTest {
         throw new Refusal("IllegalStateException");
       }
       return part(a.firstEntry().getValue().times(b.firstEntry().getValue().turned()), part);
+    }
+
+    static int sign(TreeMap<int[], Fraction> f) {
+      return f.isEmpty() ? 0 : f.firstEntry().getValue().above.signum();
     }
 
     static boolean same(TreeMap<int[], Fraction> a, TreeMap<int[], Fraction> b) {

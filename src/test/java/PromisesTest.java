@@ -1,4 +1,4 @@
-/** Every promise of the document by hand: ordinary inputs, the edges that it names, wrong inputs. */
+/** Every promise of the document by hand: ordinary inputs, edges, wrong inputs. */
 public final class PromisesTest {
   private static final Class<?> INDEX = IndexOutOfBoundsException.class;
   private static final Class<?> STATE = IllegalStateException.class;
@@ -749,24 +749,18 @@ public final class PromisesTest {
     dueText("the last one", g, 79, "1:0,1,0,0,0");
   }
 
+  /** The boundary tests look at every function behind every refused call; here it is one. */
   private static void refusedCallsChangeNothing() {
     GrowthLimits g = new GrowthLimits();
     int ten = powers(g, 10);
     int count = g.count();
-    StringBuilder before = new StringBuilder();
-    for (int f = 0; f < count; f++) {
-      before.append(text(g, f)).append('\n');
-    }
+    String before = text(g, ten);
     refused("too many terms", STATE, () -> g.times(ten, ten));
     refused("too great a number", STATE, () -> g.number(1, 1000001));
     refused("no such kind", ARGUMENT, () -> g.letter(5));
     refused("no such function", INDEX, () -> g.add(ten, count));
     due("a quotient that isn't there", g.over(ten, ten), -1);
-    StringBuilder after = new StringBuilder();
-    for (int f = 0; f < g.count(); f++) {
-      after.append(text(g, f)).append('\n');
-    }
-    due("nothing changed", before.toString().equals(after.toString()) ? 1 : 0, 1);
+    dueText("nothing changed", g, ten, before);
     due("the next handle", g.letter(4), count);
     dueText("the next one", g, count, "1:0,0,0,0,1");
   }

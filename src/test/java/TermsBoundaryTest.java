@@ -33,6 +33,7 @@ public final class TermsBoundaryTest {
     s.holds("different EXPONENTS, the highest first", TermsBoundaryTest::highestFirst);
     s.holds("of none it is 0", TermsBoundaryTest::ofNoneItIsZero);
     s.holds("handles, 0 .. 79, in the order of making", TermsBoundaryTest::handles);
+    s.holds("handle 79, and 10 TERMS of it", TermsBoundaryTest::lastHandle);
     s.holds("if there is one with its EXPONENTS, the NUMBERS are added", TermsBoundaryTest::added);
     s.holds("if that makes 0, it goes", TermsBoundaryTest::itGoes);
     s.holds("else it is one more", TermsBoundaryTest::oneMore);
@@ -40,11 +41,13 @@ public final class TermsBoundaryTest {
     s.holds("a product: for each TERM of the first one", TermsBoundaryTest::orderOfProduct);
     s.holds("the slope: for each TERM, the highest first", TermsBoundaryTest::orderOfSlope);
     s.holds("2 p, q, a, b, d times it, where these aren't 0", TermsBoundaryTest::partsOfSlope);
-    s.holds("TOO GREAT on the way: a product's part above", TermsBoundaryTest::productAboveOnTheWay);
-    s.holds("TOO GREAT on the way: a product's part below", TermsBoundaryTest::productBelowOnTheWay);
+    s.holds("TOO GREAT on the way: a product's part above", TermsBoundaryTest::aboveOnTheWay);
+    s.holds("TOO GREAT on the way: a product's part below", TermsBoundaryTest::belowOnTheWay);
     s.holds("TOO GREAT on the way: an added part below", TermsBoundaryTest::addedBelowOnTheWay);
     s.holds("TOO GREAT on the way: the last TERM alone", TermsBoundaryTest::lastTermTooGreat);
-    s.holds("more than 10 TERMS: not on the way, in the end", TermsBoundaryTest::elevenOnTheWay);
+    s.holds("in the end more than 10 TERMS: a sum", TermsBoundaryTest::manyInSums);
+    s.holds("in the end more than 10 TERMS: a product", TermsBoundaryTest::manyInProducts);
+    s.holds("in the end more than 10 TERMS: a slope", TermsBoundaryTest::manyInSlopes);
     s.holds("told of x beyond some number", TermsBoundaryTest::beyondSomeNumber);
     s.holds("IndexOutOfBoundsException: no such function, of none", TermsBoundaryTest::noFunction);
     s.holds("IndexOutOfBoundsException: no such function, of one", TermsBoundaryTest::oneFunction);
@@ -52,6 +55,7 @@ public final class TermsBoundaryTest {
     s.holds("IllegalStateException: 80 functions are there", TermsBoundaryTest::fullObject);
     s.holds("80 functions, and -1 else: the exception comes", TermsBoundaryTest::fullObjectAndNone);
     s.holds("of several the first one behind throws", TermsBoundaryTest::firstBehindThrows);
+    s.holds("nothing changes, behind refused calls of each kind", TermsBoundaryTest::nothingChanges);
     s.end();
   }
 
@@ -547,6 +551,50 @@ public final class TermsBoundaryTest {
     r.refused(Run.INDEX, "terms", -1);
   }
 
+  /** The last handle with as many TERMS as there may be, in each call that takes a handle. */
+  private static void lastHandle() {
+    Run r = new Run();
+    int ten = r.powersOfX(10);
+    r.fillTo(79);
+    int last = r.make("times", ten, r.x());
+    for (int k = 0; k < 10; k++) {
+      r.due(10 - k, "term", last, k, 2);
+      r.due(1, "term", last, k, 6);
+    }
+    r.refused(Run.ARGUMENT, "term", last, 10, 0);
+    r.due(10, "terms", last);
+    r.due(1, "limit", last);
+    r.due(1, "sign", last);
+    r.due(1, "same", last, last);
+    r.due(0, "same", last, ten);
+    r.due(0, "same", ten, last);
+    r.due(1, "compare", last, ten);
+    r.due(-1, "compare", ten, last);
+    r.due(1, "ratio", last, last, 0);
+    r.refused(Run.STATE, "ratio", last, ten, 0);
+    r.refused(Run.STATE, "value", last, 0);
+    r.refused(Run.STATE, "add", last, last);
+    r.refused(Run.STATE, "times", last, last);
+    r.refused(Run.STATE, "over", last, r.x());
+    r.refused(Run.STATE, "derive", last);
+    Run number = new Run();
+    number.fillTo(79);
+    number.make("number", -3, 4);
+    number.due(-3, "value", 79, 0);
+    number.due(4, "value", 79, 1);
+    Run zero = new Run();
+    zero.fillTo(79);
+    zero.make("number", 0, 1);
+    zero.due(0, "value", 79, 0);
+    zero.due(1, "value", 79, 1);
+    zero.due(0, "terms", 79);
+    zero.due(0, "limit", 79);
+    zero.due(0, "sign", 79);
+    zero.due(-1, "compare", 79, 78);
+    zero.due(1, "same", 79, 79);
+    zero.due(0, "same", 79, 78);
+  }
+
   private static void added() {
     Run r = new Run();
     int sum = r.sum(r.x(), r.letter(3), r.whole(1));
@@ -599,26 +647,13 @@ public final class TermsBoundaryTest {
     int minus = r.make("times", r.whole(-1), ten);
     r.makes("", "add", ten, minus);
     r.makes("", "add", minus, ten);
-    // on the way there may be an eleventh TERM, before one goes or behind that
-    int higher = r.make("add", r.letter(0), r.whole(-1));
-    int lower = r.make("add", r.one(-1, 1, 0, 0, 9), r.one(1, 1, -1));
-    int f = r.make("add", ten, higher);
-    r.due(10, "terms", f);
-    r.due(1, "term", f, 0, 0);
-    r.due(1, "term", f, 9, 2);
-    f = r.make("add", ten, lower);
-    r.due(10, "terms", f);
-    r.due(8, "term", f, 0, 2);
-    r.due(-1, "term", f, 9, 0);
-    r.due(10, "terms", r.make("add", higher, ten));
-    r.due(10, "terms", r.make("add", lower, ten));
-    // nine go, nine come
-    int other = r.make("times", r.letter(3), r.powersOfX(9));
-    int mixed = r.make("add", minus, r.whole(2));
-    r.due(10, "terms", mixed);
-    r.makes("2:0,0,0,0,0", "add", ten, mixed);
-    r.due(10, "terms", r.make("add", other, r.whole(1)));
-    r.due(1, "same", ten, r.make("add", r.make("add", ten, r.number(0, 1)), r.number(0, 1)));
+    r.makes("2:0,0,0,0,0", "add", ten, r.make("add", minus, r.whole(2)));
+    r.makes("2:0,0,0,0,0", "add", r.make("add", minus, r.whole(2)), ten);
+    r.due(1, "same", ten, r.make("add", ten, r.number(0, 1)));
+    r.due(1, "same", ten, r.make("add", r.number(0, 1), ten));
+    int each = r.make("add", r.letter(0), r.one(1, 1, -1));
+    r.makes("1:1,0,0,0,0 1:0,0,1,0,0 1:0,0,0,0,0 1:-1,0,0,0,0", "add",
+        r.make("add", r.x(), r.whole(1)), each);
   }
 
   /** Three products fall on x x x alone, and what is added first decides. */
@@ -690,7 +725,7 @@ public final class TermsBoundaryTest {
   }
 
   /** x gets 1001 times 1000, then -1000 times 1, which would be 1000000 in the end. */
-  private static void productAboveOnTheWay() {
+  private static void aboveOnTheWay() {
     Run r = new Run();
     int right = r.sum(r.x(), r.whole(1000));
     int left = r.sum(r.one(1001, 1, 0, 0, 1), r.whole(-1000));
@@ -702,7 +737,7 @@ public final class TermsBoundaryTest {
   }
 
   /** x gets 1/1001 times 1/1000, then 1/1001, which would be 1/1000 in the end. */
-  private static void productBelowOnTheWay() {
+  private static void belowOnTheWay() {
     Run r = new Run();
     int left = r.sum(r.one(1, 1001, 0, 0, 1), r.number(1, 143));
     int right = r.sum(r.one(1, 7, 0, 0, 1), r.number(1, 1000));
@@ -741,27 +776,56 @@ public final class TermsBoundaryTest {
     r.refused(Run.STATE, "add", first, r.letter(0));
   }
 
-  private static void elevenOnTheWay() {
+  /** On the way there may be more than ten, before some go or behind that. */
+  private static void manyInSums() {
+    Run r = new Run();
+    int ten = r.powersOfX(10);
+    int higher = r.make("add", r.letter(0), r.whole(-1));
+    int lower = r.make("add", r.one(-1, 1, 0, 0, 9), r.one(1, 1, -1));
+    int f = r.make("add", ten, higher);
+    r.due(10, "terms", f);
+    r.due(1, "term", f, 0, 0);
+    r.due(1, "term", f, 9, 2);
+    f = r.make("add", ten, lower);
+    r.due(10, "terms", f);
+    r.due(8, "term", f, 0, 2);
+    r.due(-1, "term", f, 9, 0);
+    r.due(10, "terms", r.make("add", higher, ten));
+    r.due(10, "terms", r.make("add", lower, ten));
+    // five are more, then five go; with one less that goes there are eleven in the end
+    int five = r.powersOfX(5);
+    int less = r.make("times", r.whole(-1), five);
+    int more = r.make("times", r.letter(0), five);
+    f = r.make("add", ten, r.make("add", more, less));
+    r.due(10, "terms", f);
+    r.due(4, "term", f, 0, 2);
+    r.due(5, "term", f, 9, 2);
+    r.refused(Run.STATE, "add", ten, r.make("add", r.make("add", more, less), r.whole(1)));
+    r.refused(Run.STATE, "add", ten, more);
+  }
+
+  private static void manyInProducts() {
     Run r = new Run();
     int ten = r.powersOfX(10);
     int minus = r.make("add", r.x(), r.whole(-1));
     r.makes("1:0,0,10,0,0 -1:0,0,0,0,0", "times", ten, minus);
     r.makes("1:0,0,10,0,0 -1:0,0,0,0,0", "times", minus, ten);
-    Run s = new Run();
-    // 3, 4 and 4 parts; the part x e^(x x) goes by the last TERM
-    int three = s.sum(s.one(1, 1, 3, 0, 1, 1), s.one(1, 1, 2, 0, 2, 1, 1),
-        s.one(1, 1, 1, 0, 2, 1, 1));
-    s.refused(Run.STATE, "derive", three);
-    int four = s.make("add", three, s.one(-1, 2, 1));
-    s.makes("6:3,0,2,1,0 1:3,0,0,1,0 1:3,0,0,0,0"
-        + " 4:2,0,3,1,1 2:2,0,1,1,1 1:2,0,1,0,1 1:2,0,1,0,0"
-        + " 2:1,0,3,1,1 2:1,0,1,1,1 1:1,0,1,0,1", "derive", four);
-    int stays = s.make("add", three, s.one(-1, 3, 1));
-    s.refused(Run.STATE, "derive", stays);
-    hundredOnTheWay();
+    int logs = r.whole(1);
+    for (int i = 1; i < 5; i++) {
+      logs = r.make("add", r.make("times", logs, r.letter(3)), r.whole(1));
+    }
+    // fifty TERMS on the way, ten in the end
+    int both = r.make("times", logs, minus);
+    r.due(10, "terms", both);
+    String want = "1:0,0,10,4,0 1:0,0,10,3,0 1:0,0,10,2,0 1:0,0,10,1,0 1:0,0,10,0,0"
+        + " -1:0,0,0,4,0 -1:0,0,0,3,0 -1:0,0,0,2,0 -1:0,0,0,1,0 -1:0,0,0,0,0";
+    r.makes(want, "times", both, ten);
+    r.makes(want, "times", ten, both);
+    r.refused(Run.STATE, "times", r.make("add", both, r.whole(2)), ten);
+    hundredInProducts();
   }
 
-  private static void hundredOnTheWay() {
+  private static void hundredInProducts() {
     Run r = new Run();
     int byX = r.powersOfX(10);
     int byLog = r.whole(1);
@@ -772,6 +836,20 @@ public final class TermsBoundaryTest {
     r.refused(Run.STATE, "times", byX, byLog);
     r.refused(Run.STATE, "times", byLog, byX);
     r.due(10, "terms", r.make("add", byX, byX));
+  }
+
+  private static void manyInSlopes() {
+    Run r = new Run();
+    // 3, 4 and 4 parts; the part x e^(x x) goes by the last TERM
+    int three = r.sum(r.one(1, 1, 3, 0, 1, 1), r.one(1, 1, 2, 0, 2, 1, 1),
+        r.one(1, 1, 1, 0, 2, 1, 1));
+    r.refused(Run.STATE, "derive", three);
+    int four = r.make("add", three, r.one(-1, 2, 1));
+    r.makes("6:3,0,2,1,0 1:3,0,0,1,0 1:3,0,0,0,0"
+        + " 4:2,0,3,1,1 2:2,0,1,1,1 1:2,0,1,0,1 1:2,0,1,0,0"
+        + " 2:1,0,3,1,1 2:1,0,1,1,1 1:1,0,1,0,1", "derive", four);
+    int stays = r.make("add", three, r.one(-1, 3, 1));
+    r.refused(Run.STATE, "derive", stays);
   }
 
   private static void beyondSomeNumber() {
@@ -931,5 +1009,38 @@ public final class TermsBoundaryTest {
       r.refused(Run.INDEX, name, 80);
       r.refused(Run.INDEX, name, -1);
     }
+  }
+
+  private static void nothingChanges() {
+    Run r = new Run();
+    int ten = r.powersOfX(10);
+    int great = r.number(1000000, 1);
+    int high = r.power(2, 99);
+    int count = r.made();
+    r.refused(Run.ARITHMETIC, "number", 7, 0);
+    r.refused(Run.STATE, "number", 7, 1000001);
+    r.refused(Run.ARGUMENT, "letter", 5);
+    r.refused(Run.STATE, "add", great, great);
+    r.refused(Run.INDEX, "add", ten, count);
+    r.refused(Run.STATE, "times", ten, ten);
+    r.refused(Run.INDEX, "times", count, ten);
+    r.refused(Run.STATE, "over", r.number(1, 2), great);
+    r.refused(Run.INDEX, "over", ten, -1);
+    r.makesNone("over", high, ten);
+    r.refused(Run.STATE, "derive", r.one(1, 1, 1, 0, 99));
+    r.makesNone("logarithm", ten);
+    r.makesNone("exponential", ten);
+    r.refused(Run.ARGUMENT, "term", ten, 10, 0);
+    r.refused(Run.STATE, "value", ten, 0);
+    r.refused(Run.ARGUMENT, "value", great, 2);
+    r.refused(Run.STATE, "ratio", ten, great, 0);
+    r.refused(Run.ARGUMENT, "ratio", ten, ten, 2);
+    r.refused(Run.ARGUMENT, "fastest", -1);
+    r.reads(ten, "1:0,0,9,0,0 1:0,0,8,0,0 1:0,0,7,0,0 1:0,0,6,0,0 1:0,0,5,0,0"
+        + " 1:0,0,4,0,0 1:0,0,3,0,0 1:0,0,2,0,0 1:0,0,1,0,0 1:0,0,0,0,0");
+    r.reads(great, "1000000:0,0,0,0,0");
+    r.reads(high, "1:0,0,99,0,0");
+    r.due(r.made(), "count");
+    r.makes("1:0,0,0,0,1", "letter", 4);
   }
 }
